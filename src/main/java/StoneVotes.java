@@ -575,6 +575,9 @@ public final class StoneVotes {
         private final int[] bytes;
         private final int mostPairs;
         private final boolean lettered;
+        // What the pairs say, as long as there is no flaw: size of them.
+        final int[] first;
+        final int[] second;
         int length = 0;
         int flaw = NONE;
         int size = 0;
@@ -583,6 +586,8 @@ public final class StoneVotes {
             this.bytes = new int[room];
             this.mostPairs = mostPairs;
             this.lettered = lettered;
+            this.first = new int[mostPairs];
+            this.second = new int[mostPairs];
         }
 
         boolean isFull() {
@@ -594,6 +599,9 @@ public final class StoneVotes {
             length++;
             flaw = findFlaw();
             size = flaw == NONE ? length / 2 : 0;
+            if (size > 0) {
+                readLastPair();
+            }
         }
 
         void clear() {
@@ -602,16 +610,15 @@ public final class StoneVotes {
             size = 0;
         }
 
-        int firstOf(int pair) {
-            return bytes[2 * pair] - '0';
-        }
-
-        int secondOf(int pair) {
-            int b = bytes[2 * pair + 1];
+        // The pairs before it were read when they were the last.
+        private void readLastPair() {
+            int b = bytes[2 * size - 1];
+            first[size - 1] = bytes[2 * size - 2] - '0';
             if (lettered) {
-                return b == 'y' ? 0 : 1;
+                second[size - 1] = b == 'y' ? 0 : 1;
+            } else {
+                second[size - 1] = b - '0';
             }
-            return b - '0';
         }
 
         private int findFlaw() {
@@ -650,19 +657,19 @@ public final class StoneVotes {
         }
 
         int strength(int person) {
-            return people.firstOf(person);
+            return people.first[person];
         }
 
         int sideOf(int person) {
-            return people.secondOf(person);
+            return people.second[person];
         }
 
         int weight(int stone) {
-            return stones.firstOf(stone);
+            return stones.first[stone];
         }
 
         int way(int stone) {
-            return stones.secondOf(stone);
+            return stones.second[stone];
         }
 
         int weightOf(int bits) {
@@ -848,9 +855,6 @@ public final class StoneVotes {
         private final Island island;
         private final int[] strengths = new int[MOST_PEOPLE];
         private int size = 0;
-        // Read from the text once, since each stone is asked for hundreds of times.
-        private final int[] weights = new int[MOST_STONES];
-        private final int[] takes = new int[MOST_STONES];
         /*
          * For each set of stones the least state in which porters, one filled behind the other, have carried
          * just it: the number of the porter at work times STEP, and that one's hours. A lesser state can do all
@@ -864,13 +868,12 @@ public final class StoneVotes {
 
         int mostWeight(int side, int heldBack) {
             gather(side, heldBack);
-            readStones();
             int best = 0;
             least[0] = 0;
             for (int bits = 1; bits < 1 << island.stones.size; bits++) {
                 least[bits] = leastFor(bits);
                 if (least[bits] < NEVER) {
-                    best = Math.max(best, weightOf(bits));
+                    best = Math.max(best, island.weightOf(bits));
                 }
             }
             return best;
@@ -884,21 +887,6 @@ public final class StoneVotes {
                     size++;
                 }
             }
-        }
-
-        private void readStones() {
-            for (int s = 0; s < island.stones.size; s++) {
-                weights[s] = island.weight(s);
-                takes[s] = island.way(s) + 1;
-            }
-        }
-
-        private int weightOf(int bits) {
-            int sum = 0;
-            for (int s = 0; s < island.stones.size; s++) {
-                sum += (bits >> s & 1) * weights[s];
-            }
-            return sum;
         }
 
         private int leastFor(int bits) {
@@ -916,10 +904,12 @@ public final class StoneVotes {
             if (state >= NEVER) {
                 return NEVER;
             }
+            int weight = island.weight(stone);
+            int takes = island.way(stone) + 1;
             int porter = state / STEP;
             for (int p = porter; p < size; p++) {
-                int until = (p == porter ? state % STEP : 0) + takes[stone];
-                if (weights[stone] <= strengths[p] && until <= island.hours) {
+                int until = (p == porter ? state % STEP : 0) + takes;
+                if (weight <= strengths[p] && until <= island.hours) {
                     return p * STEP + until;
                 }
             }

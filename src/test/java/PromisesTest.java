@@ -57,6 +57,7 @@ public final class PromisesTest {
         hold();
         game();
         gameWithTurnsLeftOut();
+        fullIsland();
         arm();
         secret();
         sheet();
@@ -286,6 +287,13 @@ public final class PromisesTest {
         due(10, "read(0), room for one", x.read(0), 1);
         due(10, "read(0), no room", x.read(0), 0);
         due(10, "count(4)", x.count(4), 30);
+        StoneVotes y = new StoneVotes();
+        y.sheet(0, 2, 60);
+        for (int i = 2; i < 60; i += 3) {
+            y.lay(0, 2, i, 5);
+        }
+        due(10, "read(0), 60 items", y.read(0), 20);
+        due(10, "read(0), half of it", y.read(0), 10);
     }
 
     private static void undo() {
@@ -309,6 +317,11 @@ public final class PromisesTest {
         x.carry(1, 1, 5);
         x.carry(1, 0, 5);
         x.carry(1, 8, 5);
+        due(12, "judged()", x.judged(), 2);
+        x.undo();
+        x.undo();
+        due(12, "judged(), those undone", x.judged(), -1);
+        x.carry(1, 0, 5);
         due(12, "judged()", x.judged(), 2);
         x.wipe(0);
         due(12, "judged() with nobody", x.judged(), 0);
@@ -460,6 +473,11 @@ public final class PromisesTest {
         due(18, "result(0), a short day", x.result(0), 5 - 15);
         due(18, "result(3)", x.result(3), BAD_NUMBER);
         due(18, "result(-1)", x.result(-1), BAD_NUMBER);
+        StoneVotes y = island("5y1n", "5020");
+        y.carry(0, 0, 1);
+        due(18, "result(2), one stone", y.result(2), 1);
+        y.carry(0, 1, 1);
+        due(18, "result(2), two of one", y.result(2), 1);
     }
 
     private static void without() {
@@ -501,6 +519,15 @@ public final class PromisesTest {
         due(20, "settled(), 0 at the end", x.settled(), -1);
         x.tide(12, 6);
         due(20, "settled(), at the end alone", x.settled(), 12);
+        StoneVotes y = new StoneVotes();
+        y.tide(12, 1);
+        y.tide(13, -1);
+        y.tide(10, 1);
+        due(20, "settled(), whatever comes behind the day", y.settled(), 12);
+        y.tide(11, 1);
+        due(20, "settled(), three hours", y.settled(), 10);
+        y.tide(11, -1);
+        due(20, "settled(), the hour before the end", y.settled(), 12);
     }
 
     private static void doubles() {
@@ -622,6 +649,8 @@ public final class PromisesTest {
         due(25, "game(3, 0), 4 first", y.game(3, 0), 5 * (4 - 1 + 6));
         due(25, "game(3, 1), 4 first", y.game(3, 1), 2);
         due(25, "game(2, 1), 4 first", y.game(2, 1), 2);
+        due(25, "game(1, 1), 6 first", y.game(1, 1), 1);
+        due(35, "digest(), game(2, 1)", y.digest(), digestOf(y));
         StoneVotes z = island("4y4n", "404030");
         due(25, "game(1, 1), of like ones the least", z.game(1, 1), 0);
     }
@@ -642,6 +671,33 @@ public final class PromisesTest {
         StoneVotes e = island("", "");
         due(25, "game(4, 0), nothing", e.game(4, 0), 0);
         due(25, "game(4, 1), nothing", e.game(4, 1), -1);
+    }
+
+    /** As many as can be of all: 8 of one side, 9 stones. */
+    private static void fullIsland() {
+        StoneVotes x = island("9y9y9y9y9y9y9y9y", "102030405060708090");
+        due(23, "most(0), all", x.most(0), 45);
+        due(23, "most(1), nobody", x.most(1), 0);
+        due(24, "hold(0)", x.hold(0), 0);
+        due(24, "hold(1)", x.hold(1), -1);
+        x.set(0, 1);
+        due(23, "most(0), one each", x.most(0), 44);
+        due(25, "game(4, 0)", x.game(4, 0), 5 * (9 + 8));
+        due(25, "game(4, 1)", x.game(4, 1), 7);
+        x.tide(1, -50);
+        due(22, "fewest(1), 5 and 6", x.fewest(1), 1 << 4 | 1 << 5);
+        for (int s = 0; s < 9; s++) {
+            x.carry(s % 8, s, 5);
+        }
+        due(18, "result(1)", x.result(1), 36);
+        due(18, "result(2)", x.result(2), 8);
+        due(34, "count(6)", x.count(6), 8);
+        x.set(0, 2);
+        due(18, "result(0)", x.result(0), 5 * 45);
+        due(34, "count(6)", x.count(6), 9);
+        x.set(1, 44);
+        due(16, "slid(2), all", x.slid(2), 9);
+        due(35, "digest()", x.digest(), digestOf(x));
     }
 
     private static void arm() {
@@ -750,6 +806,9 @@ public final class PromisesTest {
         due(30, "get(0, 0, 2), 8 bits", x.get(0, 0, 2), -128);
         due(30, "get(1, 1, 2), 16 bits", x.get(1, 1, 2), -32640);
         due(30, "get(2, 2, 2), 32 bits", x.get(2, 2, 2), 98432);
+        x.sheet(3, 2, 60);
+        due(30, "lay(3, 2, 59, 5)", x.lay(3, 2, 59, 5), 1);
+        due(30, "get(3, 2, 59)", x.get(3, 2, 59), 5);
     }
 
     private static void get() {
