@@ -48,7 +48,8 @@ public final class CarryBoundsTest extends Sentences {
         sentence(9, "one undone, there is room for one").times(30, "carry(0, 0, 1)").due("undo()", 29)
             .due("carry(1, 1, 1)", 30).refused("carry(1, 1, 1)", FULL);
         sentence(9, "the thirtieth is judged as any").people("5y").stones("50").times(29, "carry(1, 0, 1)")
-            .due("carry(0, 0, 5)", 30).due("laid(29)", 1).due("tip(1)", 25).refused("carry(0, 0, 4)", FULL);
+            .due("carry(0, 0, 5)", 30).due("laid(29)", 1).due("tip(1)", 25).refused("carry(0, 0, 4)", FULL)
+            .refused("carry(1, 0, 5)", FULL).refused("carry(0, 1, 5)", FULL);
     }
 
     private static void readSheets() {

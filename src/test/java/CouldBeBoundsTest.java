@@ -237,6 +237,9 @@ public final class CouldBeBoundsTest extends Sentences {
             .with("arm(7, 1)").due("secret(9, 0)", ways / 3).due("secret(9, 1)", 128).due("secret(-9, 2)", 128);
         sentence(27, "in all: not only in some").people("1y1y2y").due("secret(2, 0)", 4).due("secret(2, 1)", 0)
             .due("secret(3, 0)", 2).due("secret(3, 1)", 4).due("secret(-3, 2)", 4).due("secret(4, 1)", 7);
+        sentence(27, "of those alone who are there: fewer than before").people("9y9y9y9y").due("secret(36, 1)", 15)
+            .due("secret(9, 0)", 16).with("wipe(0)").people("2y").due("secret(3, 0)", 0).due("secret(9, 0)", 0)
+            .due("secret(2, 0)", 1).due("secret(2, 1)", 1).with("wipe(0)").due("secret(2, 0)", 0).due("secret(0, 0)", 1);
         sentence(27, "of those alone who are there").people("1y").with("arm(1, 5)", "arm(7, 5)").due("secret(0, 0)", 1)
             .due("secret(1, 0)", 1).due("secret(1, 1)", 1);
     }

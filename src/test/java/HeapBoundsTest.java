@@ -274,7 +274,7 @@ public final class HeapBoundsTest extends Sentences {
             .with("set(1, 12)", "tide(3, -9)", "tide(12, 4)", "arm(2, 5)", "carry(0, 0, 5)", "carry(1, 1, 1)",
                 "carry(0, 8, 5)", "carry(3, 0, 2)", "carry(3, 3, 1)", "carry(1, 2, 1)");
         for (String question : questions) {
-            busy.unchanged(question, busy.again().askedNow(question));
+            busy.unchanged(question, busy.branch().askedNow(question));
         }
     }
 }

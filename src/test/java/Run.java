@@ -40,7 +40,8 @@ final class Run {
 
     private void tell(String what) {
         wrong++;
-        System.out.println("promise " + promise + ", '" + words + "': " + what + "\n    behind " + story);
+        String where = promise == 0 ? "terms" : "promise " + promise;
+        System.out.println(where + ", '" + words + "': " + what + "\n    behind " + story);
     }
 
     private static int number(String told) {
@@ -182,9 +183,13 @@ final class Run {
         return run;
     }
 
-    /** Another object to which the same was told. */
-    Run again() {
-        return retold(story);
+    /** The same sentence, told so far, to go on with by itself. */
+    Run branch() {
+        Run run = new Run(promise, words);
+        for (String call : story) {
+            run.ask(call);
+        }
+        return run;
     }
 
     long askedNow(String call) {

@@ -345,12 +345,12 @@ public final class SheetBoundsTest extends Sentences {
         sentence(35, "SHEETS are not in it").row(0, 2, 1, 2, 3).due("digest()", -1582163528218712639L);
         Run two = sentence(35, "game(2, 0 and 1), not of one turn").people("6y4n").stones("106040").due("game(1, 1)", 1)
             .due("game(2, 1)", 2);
-        two.due("digest()", digestOf(two.again()));
+        two.due("digest()", digestOf(two.branch()));
         two.anew().people("9y1n").stones("1090").due("game(2, 1)", 1).due("game(3, 1)", 0);
-        two.due("digest()", digestOf(two.again()));
+        two.due("digest()", digestOf(two.branch()));
         Run asked = sentence(35, "it changes nothing").people("3y4n").stones("3241").row(0, 0, 5)
             .with("carry(0, 0, 5)", "carry(1, 0, 1)");
-        asked.unchanged("digest()", digestOf(asked.again()));
+        asked.unchanged("digest()", digestOf(asked.branch()));
     }
 
     private static void digestWraps() {
@@ -362,13 +362,13 @@ public final class SheetBoundsTest extends Sentences {
             for (int hours : new int[] {1, 2, 3, 4, 12, 24}) {
                 wraps.anew().people(people[k]).stones(stones[k]).with("set(0, " + hours + ")", "set(1, 9)", "tide(3, 5)",
                     "tide(12, -20)", "carry(0, 0, 5)", "carry(1, 0, 1)", "carry(2, 1, 1)", "carry(1, 2, 5)");
-                wraps.due("digest()", digestOf(wraps.again()));
+                wraps.due("digest()", digestOf(wraps.branch()));
             }
             most.anew().people(people[k]).stones(stones[k]);
             for (int c = 0; c < 30; c++) {
                 most.with("carry(" + c % 8 + ", " + c * 7 % 9 + ", " + (c % 5 + 1) + ")");
             }
-            most.due("digest()", digestOf(most.again()));
+            most.due("digest()", digestOf(most.branch()));
         }
     }
 
